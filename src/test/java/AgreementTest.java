@@ -5,12 +5,13 @@ public final class AgreementTest {
     private static final int SHELLS = 12000;
     private static final int SCRIPTS_EACH = 12;
 
-    private static final String[] NAMES = {"a", "b", "c", "_x1", "abcdef", "abcdefg"};
+    private static final String[] NAMES = {"a", "b", "c", "_x1", "abcdef", "abcdefg", "A", "Z9", "z0"};
     private static final String[] FILES = {"f", "g", "f1", "f2", "fgh", "'a b'", "\"*\"", "z", "longname", "toolongna"};
     private static final String[] PARAMETERS = {"$a", "$b", "${c}", "${a:-x y}", "${_x1:-}", "${c:-*}", "$1", "$2", "$#",
-        "$?", "$", "$0", "$10", "$abcdef", "${b:- f? }", "$9"};
+        "$?", "$", "$0", "$10", "$abcdef", "${b:- f? }", "$9", "$Z9", "$A", "${z0}"};
     private static final String[] BITS = {"x", "y", "ab", "1", "*", "?", "f", "=", "#", "-e", "\\ ", "\\*", "\\\\", "''",
-        "\"\"", "'a  b'", "'\n'", "{", "}", "!", "f*", "?1", "0123456789", "abcdefghijklmnopqrst"};
+        "\"\"", "'a  b'", "'\n'", "{", "}", "!", "f*", "?1", "0123456789", "abcdefghijklmnopqrst",
+        "'ab\nac\nab'", "'b\nabb\naba\n\n'", "\"x\nx\n$a\""};
     private static final String[] UTILITIES = {"echo", "echo", "echo", "cat", "cat", "true", "false", "set", "unset", "rm",
         "wc", "head", "rev", "sort", "uniq", "grep", "tr", "test", "exit", "nope", "''"};
     private static final String[] NUMBERS = {"0", "1", "2", "3", "10", "007", "255", "256", "1000", "-1"};

@@ -10,6 +10,9 @@ public final class ExpandTest {
         checks.script(shell, "echo ${longername:-none}$longername", 0, "none\n");
         checks.script(shell, "exit 205", 205, "");
         checks.script(shell, "echo $?0", 0, "2050\n");
+        checks.script("A=1 Z=2 a=3 z=4 A0=5 z9=6 _0=7; echo $A$Z$a$z $A0$z9$_0 ${A}${z9} $A@$A[", 0,
+            "1234 567 16 1@1[\n");
+        checks.script(shell, "echo $@a $[a $`a $/ $: $!", 0, "$@a $[a $`a $/ $: $!\n");
         checks.script(shell, "echo $_ $_a; _a=1; echo $_a", 0, "\n1\n");
     }
 

@@ -47,6 +47,9 @@ public final class RunningTest {
         checks.script("exit 5 < none; echo $?", 0, "1\n");
         checks.script("exit 5 > f", 5, "");
         checks.script("a=1 exit 6", 6, "");
+        for (int status : new int[] {0, 9, 10, 11, 99, 100, 101, 110, 255}) {
+            checks.script("true | exit " + status + "; echo $?", 0, status + "\n");
+        }
         TinyShell shell = Checks.after("exit 9");
         checks.script(shell, "", 9, "");
         checks.script(shell, "exit", 9, "");
@@ -101,6 +104,16 @@ public final class RunningTest {
         checks.script("a=1; b=2; a=; echo \"[$a]$b\"", 0, "[]2\n");
     }
 
+    private static void manyRuns(Checks checks) {
+        TinyShell shell = new TinyShell();
+        Checks.type(shell, "a=$a.; test $a = .......... && a=; echo \"x$a\" | cat; echo $a > f; cat f | cat; echo 'b' \"c\" $#");
+        for (int n = 1; n <= 490; n++) {
+            String dots = ".".repeat(n % 10);
+            checks.same("run " + n, Checks.runTyped(shell), "0");
+            checks.same("run " + n + " put out", shell.count(4), ("x" + dots + "\n" + dots + "\nb c 0\n").length());
+        }
+    }
+
     private static void whatStays(Checks checks) {
         TinyShell shell = Checks.after("a=1; set p q; echo x > f; echo out; false");
         String stays = "variables a=[1]; positions [p] [q]; files f=[x\n]; status 1; output ";
@@ -121,6 +134,7 @@ public final class RunningTest {
         redirectionsThatFail(checks);
         assignments(checks);
         whatStays(checks);
+        manyRuns(checks);
         checks.end();
     }
 }

@@ -108,6 +108,11 @@ public final class SyntaxTest {
         checks.same("place behind wipe", shell.place(), 5);
         Checks.run(shell, ")");
         checks.same("place of a later one", shell.place(), 0);
+        Checks.run(shell, "\n".repeat(239) + "(");
+        checks.same("place of the last of 240 tokens", shell.place(), 239);
+        checks.same("the longest quotes", Checks.run(shell, "\"" + "a".repeat(238) + "\""), Checks.TOO_MUCH);
+        checks.same("the longest quotes, left open", Checks.run(shell, "\"" + "a".repeat(239)), Checks.MALFORMED);
+        checks.same("their place", shell.place(), 240);
         String longest = "a".repeat(239) + "|";
         Checks.run(shell, longest);
         checks.same("place at the end of the longest script", shell.place(), 240);

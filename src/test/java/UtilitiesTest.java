@@ -64,6 +64,7 @@ public final class UtilitiesTest {
     private static void sort(Checks checks) {
         checks.script("echo 'b\nab\na\nB\n\nb\n1\nabc' | sort", 0, "\n1\nB\na\nab\nabc\nb\nb\n");
         checks.script("echo 'b\na' | tr '\n' x | sort", 0, "bxax\n");
+        checks.script("echo 'abd\nabc\nacb\nabca\nbaa' | sort", 0, "abc\nabca\nabd\nacb\nbaa\n");
         checks.script("sort; echo 'b\na' | sort x", 2, "");
         StringBuilder down = new StringBuilder();
         StringBuilder up = new StringBuilder();
@@ -77,7 +78,8 @@ public final class UtilitiesTest {
     private static void uniq(Checks checks) {
         checks.script("echo 'a\na\nb\na\na\n\n\nab\na' | uniq", 0, "a\nb\na\n\nab\na\n");
         checks.script("echo 'ax' > f; echo 'a\na' | tr '\n' x | cat >> f; uniq < f", 0, "ax\naxax\n");
-        checks.script("echo 'a\na' | tr x y | uniq x", 2, "");
+        checks.script("echo 'xab\nxab\nxac\nyac\nyac' | uniq", 0, "xab\nxac\nyac\n");
+        checks.script("echo 'a\na' | uniq x", 2, "");
         checks.script("uniq", 0, "");
     }
 
@@ -120,6 +122,14 @@ public final class UtilitiesTest {
         }
     }
 
+    private static void manyLines(Checks checks) {
+        TinyShell shell = Checks.after("a='" + "\n".repeat(39) + "'; echo \"$a\" > f; echo \"$a\" >> f");
+        checks.script(shell, "cat f f f | wc", 0, "240 240\n");
+        checks.script(shell, "cat f f f | sort | head 99 | wc", 0, "99 99\n");
+        checks.script(shell, "cat f f f | sort | rev | grep '' | wc", 0, "240 240\n");
+        checks.script(shell, "cat f f f | uniq", 0, "\n");
+    }
+
     private static void unknown(Checks checks) {
         for (String word : new String[] {"nope", "''", "Echo", "ech", "echoo", "'echo '", "./cat", "-e"}) {
             checks.script("echo a | " + word + " b", 127, "");
@@ -140,6 +150,7 @@ public final class UtilitiesTest {
         grep(checks);
         tr(checks);
         test(checks);
+        manyLines(checks);
         unknown(checks);
         checks.end();
     }
