@@ -151,7 +151,7 @@ public final class AgreementTest {
         int[] kinds = new int[3];
         for (int seed = first; seed < first + shells; seed++) {
             AgreementTest made = new AgreementTest(seed);
-            TinyShell tiny = new TinyShell();
+            Shell tiny = new Shell();
             PlainShell plain = new PlainShell();
             for (int n = 0; n < SCRIPTS_EACH; n++) {
                 String script = n == SCRIPTS_EACH - 1 ? made.odd() : made.script();

@@ -1,7 +1,7 @@
 /** Promise 4: how words are expanded. */
 public final class ExpandTest {
     private static void parameters(Checks checks) {
-        TinyShell shell = Checks.after("a=x; ab=y; set one two; false");
+        Shell shell = Checks.after("a=x; ab=y; set one two; false");
         checks.script(shell, "echo $? $?", 0, "1 1\n");
         checks.script(shell, "echo $a $ab ${a}b $a-b $abc $1$2 $3 $# $10 $0 $", 0, "x y xb x-b onetwo 2 one0 $0 $\n");
         checks.script(shell, "echo $a.$ab/$a1 $'a' $\"a\" \"$\" \"$ a\" $$ \"$0\"", 0, "x.y/ $a $a $ $ a $$ $0\n");
@@ -17,7 +17,7 @@ public final class ExpandTest {
     }
 
     private static void quotes(Checks checks) {
-        TinyShell shell = Checks.after("a='x  y'");
+        Shell shell = Checks.after("a='x  y'");
         checks.script(shell, "echo '$a \\ \"' \"'\" \\' \\$a \\a \\\\", 0, "$a \\ \" ' ' $a a \\\n");
         checks.script(shell, "echo \"\\$a \\\" \\\\ \\a \\' \\* $a\"", 0, "$a \" \\ \\a \\' \\* x  y\n");
         checks.script(shell, "echo 'a\nb' \"c\nd\" a\\ \\ b", 0, "a\nb c\nd a  b\n");
@@ -26,7 +26,7 @@ public final class ExpandTest {
     }
 
     private static void fields(Checks checks) {
-        TinyShell shell = Checks.after("a='  x  y '; n='1\n2'; b=' '; e=");
+        Shell shell = Checks.after("a='  x  y '; n='1\n2'; b=' '; e=");
         checks.script(shell, "set $a; echo $# [$1] [$2]", 0, "2 [x] [y]\n");
         checks.script(shell, "set p$a\"q\"; echo $# [$1] [$3] [$4]", 0, "4 [p] [y] [q]\n");
         checks.script(shell, "set ''$a''; echo $# \"[$1]\" [$2] \"[$4]\"", 0, "4 [] [x] []\n");
@@ -45,7 +45,7 @@ public final class ExpandTest {
     }
 
     private static void patterns(Checks checks) {
-        TinyShell shell = Checks.after("> b; > a; > ab; > 'a b'; > abc; > B", "p='a*'; q='?'; s='? ab*'");
+        Shell shell = Checks.after("> b; > a; > ab; > 'a b'; > abc; > B", "p='a*'; q='?'; s='? ab*'");
         checks.script(shell, "echo *", 0, "B a a b ab abc b\n");
         checks.script(shell, "echo a* ?b ? a?? *b* *c", 0, "a a b ab abc ab B a b a b abc a b ab abc b abc\n");
         checks.script(shell, "echo z* ?? a*z", 0, "z* ab a*z\n");

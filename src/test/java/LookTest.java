@@ -3,7 +3,7 @@ public final class LookTest {
     private static final int[] FAR = {-1, Integer.MIN_VALUE, Integer.MIN_VALUE + 1, Integer.MAX_VALUE, 1000};
 
     private static void output(Checks checks) {
-        TinyShell shell = Checks.after("echo ab");
+        Shell shell = Checks.after("echo ab");
         checks.same("output(0)", shell.output(0), 'a');
         checks.same("output(2)", shell.output(2), '\n');
         checks.same("output(3)", shell.output(3), '\0');
@@ -16,7 +16,7 @@ public final class LookTest {
     }
 
     private static void count(Checks checks) {
-        TinyShell shell = Checks.after("a=1 b=2; set p q r; > f; > g; > h; > i; echo 12345; exit 77");
+        Shell shell = Checks.after("a=1 b=2; set p q r; > f; > g; > h; > i; echo 12345; exit 77");
         int[] due = {2, 3, 4, 77, 6};
         for (int what = 0; what < due.length; what++) {
             checks.same("count(" + what + ")", shell.count(what), due[what]);
@@ -27,7 +27,7 @@ public final class LookTest {
     }
 
     private static void variables(Checks checks) {
-        TinyShell shell = Checks.after("b=2x; ab=3; a=1; B=4; a_=5; a1=6; abc=; _=7", "unset a1");
+        Shell shell = Checks.after("b=2x; ab=3; a=1; B=4; a_=5; a1=6; abc=; _=7", "unset a1");
         String[] names = {"B", "_", "a", "a_", "ab", "abc", "b"};
         String[] values = {"4", "7", "1", "5", "3", "", "2x"};
         for (int i = 0; i < names.length; i++) {
@@ -48,7 +48,7 @@ public final class LookTest {
     }
 
     private static void positions(Checks checks) {
-        TinyShell shell = Checks.after("set a 'b c' '' d");
+        Shell shell = Checks.after("set a 'b c' '' d");
         checks.same("position(1, 0)", shell.position(1, 0), 'a');
         checks.same("position(2, 2)", shell.position(2, 2), 'c');
         checks.same("position(2, 3)", shell.position(2, 3), '\0');
@@ -65,7 +65,7 @@ public final class LookTest {
     }
 
     private static void files(Checks checks) {
-        TinyShell shell = Checks.after("echo 1 > b; echo 2 > a; echo 3 > ab; echo 4 > 'a b'; > Z; echo 5 > c", "rm c; a=x");
+        Shell shell = Checks.after("echo 1 > b; echo 2 > a; echo 3 > ab; echo 4 > 'a b'; > Z; echo 5 > c", "rm c; a=x");
         String[] names = {"Z", "a", "a b", "ab", "b"};
         String[] contents = {"", "2\n", "4\n", "3\n", "1\n"};
         for (int i = 0; i < names.length; i++) {
@@ -87,7 +87,7 @@ public final class LookTest {
     }
 
     private static void emptyShell(Checks checks) {
-        TinyShell shell = new TinyShell();
+        Shell shell = new Shell();
         checks.same("output of a new shell", shell.output(0), '\0');
         checks.same("value of a new shell", shell.value(0, 0), '\0');
         checks.same("position of a new shell", shell.position(1, 0), '\0');

@@ -11,7 +11,7 @@ public final class RunningTest {
         checks.script("nope | wc", 0, "0 0\n");
         checks.script("cat < none | wc", 0, "0 0\n");
         checks.script("echo a|cat|cat|cat|cat|cat", 0, "a\n");
-        TinyShell shell = Checks.after("a=1; set p");
+        Shell shell = Checks.after("a=1; set p");
         checks.script(shell, "a=2 | echo $a", 0, "1\n");
         checks.script(shell, "unset a | set q r | echo $a $# $1; echo $a $# $1", 0, "1 1 p\n1 1 p\n");
         checks.script(shell, "echo x | a=3; echo $a", 0, "1\n");
@@ -50,7 +50,7 @@ public final class RunningTest {
         for (int status : new int[] {0, 9, 10, 11, 99, 100, 101, 110, 255}) {
             checks.script("true | exit " + status + "; echo $?", 0, status + "\n");
         }
-        TinyShell shell = Checks.after("exit 9");
+        Shell shell = Checks.after("exit 9");
         checks.script(shell, "", 9, "");
         checks.script(shell, "exit", 9, "");
         checks.script(shell, "echo $?", 0, "9\n");
@@ -105,9 +105,9 @@ public final class RunningTest {
     }
 
     private static void manyRuns(Checks checks) {
-        TinyShell shell = new TinyShell();
+        Shell shell = new Shell();
         Checks.type(shell, "a=$a.; test $a = .......... && a=; echo \"x$a\" | cat; echo $a > f; cat f | cat; echo 'b' \"c\" $#");
-        for (int n = 1; n <= 490; n++) {
+        for (int n = 1; n <= 240; n++) {
             String dots = ".".repeat(n % 10);
             checks.same("run " + n, Checks.runTyped(shell), "0");
             checks.same("run " + n + " put out", shell.count(4), ("x" + dots + "\n" + dots + "\nb c 0\n").length());
@@ -115,7 +115,7 @@ public final class RunningTest {
     }
 
     private static void whatStays(Checks checks) {
-        TinyShell shell = Checks.after("a=1; set p q; echo x > f; echo out; false");
+        Shell shell = Checks.after("a=1; set p q; echo x > f; echo out; false");
         String stays = "variables a=[1]; positions [p] [q]; files f=[x\n]; status 1; output ";
         checks.same("behind a run", Checks.state(shell), stays + "4 [out\n]");
         checks.same("a comment", Checks.run(shell, "# nothing"), "1");

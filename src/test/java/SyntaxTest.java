@@ -90,14 +90,14 @@ public final class SyntaxTest {
         checks.malformed("echo ${a:x} (", 9);
         checks.malformed("echo x > f; echo y; (", 20);
         checks.malformed("echo 012345678901234567890123456789012345678901; )", 49);
-        TinyShell shell = Checks.after("a=1; echo o; false");
+        Shell shell = Checks.after("a=1; echo o; false");
         String before = Checks.state(shell);
         checks.same("a malformed script", Checks.run(shell, "a=2; echo x > f; set p; true; |"), Checks.MALFORMED);
         checks.same("the state behind it", Checks.state(shell), before);
     }
 
     private static void placeStays(Checks checks) {
-        TinyShell shell = new TinyShell();
+        Shell shell = new Shell();
         Checks.run(shell, "echo (");
         checks.same("place", shell.place(), 5);
         Checks.run(shell, "echo a");
@@ -134,7 +134,7 @@ public final class SyntaxTest {
 
     private static void assignments(Checks checks) {
         checks.script("a=1 b=2 echo a=3", 0, "a=3\n");
-        TinyShell shell = Checks.after("> f a=1 > g b_2=x=y _=");
+        Shell shell = Checks.after("> f a=1 > g b_2=x=y _=");
         checks.same("assignments beside redirections", Checks.state(shell),
             "variables _=[] a=[1] b_2=[x=y]; positions; files f=[] g=[]; status 0; output 0 []");
         checks.script("'a'=1", 127, "");

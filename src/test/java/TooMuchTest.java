@@ -9,7 +9,7 @@ public final class TooMuchTest {
         checks.tooMuch("a='1 2 3 4 5 6 7 8 9'; echo $a $a");
         checks.script("a='   '; echo $a$a$a $a $a $a $a $a $a $a $a $a $a $a $a $a $a $a $a $a", 0, "\n");
         checks.script("echo 1 2 3 4 5 6 7 8 9 a | echo 1 2 3 4 5 6 7 8 9 a | wc", 0, "1 20\n");
-        TinyShell shell = Checks.after(">a;>b;>c;>d;>e");
+        Shell shell = Checks.after(">a;>b;>c;>d;>e");
         checks.script(shell, "echo * * *", 0, "a b c d e a b c d e a b c d e\n");
         checks.tooMuch(shell, "echo * * * x");
         checks.tooMuch(shell, "echo x * * *");
@@ -46,7 +46,7 @@ public final class TooMuchTest {
         checks.tooMuch("a=" + FORTY + "; b=\"$a \" nope");
         checks.script("a=" + FORTY + " b=$a$a true", 0, "");
         checks.tooMuch("a=" + FORTY + " b=$a$a");
-        TinyShell full = Checks.after("a=1 b=2 c=3 d=4 e=5 f=6 g=7 h=8");
+        Shell full = Checks.after("a=1 b=2 c=3 d=4 e=5 f=6 g=7 h=8");
         checks.same("variables", full.count(0), 8);
         checks.tooMuch(full, "i=9");
         checks.tooMuch(full, "i=9 | true");
@@ -68,7 +68,7 @@ public final class TooMuchTest {
         checks.tooMuch("cat < 123456789");
         checks.script("cat 123456789; rm 123456789; test -e 123456789", 1, "");
         checks.tooMuch("a=1234; echo x > $a$a\"$a\"");
-        TinyShell full = Checks.after(">a;>b;>c;>d;>e;>f;>g;>h");
+        Shell full = Checks.after(">a;>b;>c;>d;>e;>f;>g;>h");
         checks.same("files", full.count(2), 8);
         checks.tooMuch(full, "> i");
         checks.tooMuch(full, "rm a; > i >> j");
@@ -77,7 +77,7 @@ public final class TooMuchTest {
     }
 
     private static void filesThatGrow(Checks checks) {
-        TinyShell shell = Checks.after("a=" + FORTY.substring(1) + "; echo $a > f; echo $a >> f");
+        Shell shell = Checks.after("a=" + FORTY.substring(1) + "; echo $a > f; echo $a >> f");
         checks.script(shell, "wc < f", 0, "2 80\n");
         checks.tooMuch(shell, "echo >> f");
         checks.tooMuch(shell, "cat f f > g");
@@ -87,7 +87,7 @@ public final class TooMuchTest {
     }
 
     private static void putOut(Checks checks) {
-        TinyShell shell = Checks.after("a=" + FORTY.substring(1) + "; echo $a > f; echo $a >> f");
+        Shell shell = Checks.after("a=" + FORTY.substring(1) + "; echo $a > f; echo $a >> f");
         checks.script(shell, "cat f f f | wc", 0, "6 240\n");
         checks.tooMuch(shell, "echo > g; cat f f f g | wc");
         checks.tooMuch(shell, "echo > g; cat f f f g > h");
@@ -108,7 +108,7 @@ public final class TooMuchTest {
     }
 
     private static void nothingChanges(Checks checks) {
-        TinyShell shell = Checks.after("a=1; set p; echo x > f; echo out; false");
+        Shell shell = Checks.after("a=1; set p; echo x > f; echo out; false");
         checks.tooMuch(shell, "a=2; b=3; set q r; echo y >> f; > g; rm f; echo o; true; abcdefg=1");
         checks.tooMuch(shell, "exit 1 | abcdefg=1");
         checks.script(shell, "echo $?$a$1; cat f", 0, "11p\nx\n");

@@ -9,12 +9,12 @@ public final class TypeTest {
     }
 
     private static void typesBytes(Checks checks) {
-        TinyShell shell = new TinyShell();
+        Shell shell = new Shell();
         checks.same("type(echo hi!)", shell.type(0x6563686F20686921L), true);
         checks.same("run()", Checks.runTyped(shell), "0");
         checks.same("its output", Checks.output(shell), "hi!\n");
 
-        shell = new TinyShell();
+        shell = new Shell();
         checks.same("type(0)", shell.type(0), true);
         checks.same("zeros between", shell.type(eight('e', 0, 0, 'c', 'h', 0, 'o', 0)), true);
         checks.same("and behind", shell.type(eight(' ', 'a', 0, 0)), true);
@@ -29,10 +29,10 @@ public final class TypeTest {
         for (int b = 0; b < 256; b++) {
             boolean due = b == 0 || b == 10 || b >= 32 && b <= 126;
             for (int shift = 0; shift < 64; shift += 8) {
-                checks.same("type of byte " + b + " at " + shift, new TinyShell().type((long) b << shift), due);
+                checks.same("type of byte " + b + " at " + shift, new Shell().type((long) b << shift), due);
             }
         }
-        TinyShell shell = new TinyShell();
+        Shell shell = new Shell();
         Checks.type(shell, "echo a");
         checks.same("good bytes and a bad one", shell.type(eight('b', 'c', 9, 'd')), false);
         checks.same("a byte above 127", shell.type(-1L), false);
@@ -41,7 +41,7 @@ public final class TypeTest {
     }
 
     private static void refusesMoreThan240(Checks checks) {
-        TinyShell shell = new TinyShell();
+        Shell shell = new Shell();
         String script = "echo " + "#".repeat(235);
         checks.same("236 characters", Checks.type(shell, script.substring(0, 236)), true);
         checks.same("5 more", shell.type(eight('a', 'a', 'a', 'a', 'a')), false);
@@ -57,7 +57,7 @@ public final class TypeTest {
     }
 
     private static void wipes(Checks checks) {
-        TinyShell shell = Checks.after("a=1; set p; echo x > f; echo y; false", "(");
+        Shell shell = Checks.after("a=1; set p; echo x > f; echo y; false", "(");
         Checks.run(shell, "echo out; a=2; false");
         String before = Checks.state(shell);
         shell.wipe();

@@ -123,7 +123,7 @@ public final class UtilitiesTest {
     }
 
     private static void manyLines(Checks checks) {
-        TinyShell shell = Checks.after("a='" + "\n".repeat(39) + "'; echo \"$a\" > f; echo \"$a\" >> f");
+        Shell shell = Checks.after("a='" + "\n".repeat(39) + "'; echo \"$a\" > f; echo \"$a\" >> f");
         checks.script(shell, "cat f f f | wc", 0, "240 240\n");
         checks.script(shell, "cat f f f | sort | head 99 | wc", 0, "99 99\n");
         checks.script(shell, "cat f f f | sort | rev | grep '' | wc", 0, "240 240\n");
