@@ -16,6 +16,9 @@ public final class PromiseBoundaryTest {
     private static void aNewObject(Checks checks) {
         Shell shell = new Shell();
         checks.same("a new shell", Checks.state(shell), NOTHING);
+        for (int what = 0; what <= 4; what++) {
+            checks.same("count(" + what + ")", shell.count(what), 0);
+        }
         for (int i = 0; i <= 10; i++) {
             checks.same("name(false, " + i + ", 0)", shell.name(false, i, 0), '\0');
             checks.same("name(true, " + i + ", 0)", shell.name(true, i, 0), '\0');
@@ -302,9 +305,36 @@ public final class PromiseBoundaryTest {
             checks.same("name(true, 0, " + far + ")", shell.name(true, 0, far), '\0');
             checks.same("name(true, " + far + ", 0)", shell.name(true, far, 0), '\0');
         }
+        Checks.run(shell, "unset b abcdef; rm g ga");
+        checks.same("name(false, 0) behind unset", Checks.name(shell, false, 0), "B");
+        checks.same("name(true, 0) behind rm", Checks.name(shell, true, 0), "12345678");
+        for (int i = 1; i < 4; i++) {
+            checks.same("name(false, " + i + ", 0) behind unset", shell.name(false, i, 0), '\0');
+            checks.same("name(true, " + i + ", 0) behind rm", shell.name(true, i, 0), '\0');
+        }
         Shell some = Checks.after("a=1 b=2; > f");
         checks.same("name(true, 1, 0)", some.name(true, 1, 0), '\0');
         checks.same("name(false, 1, 0)", some.name(false, 1, 0), 'b');
+    }
+
+    /** What it is: An object is used for at most 512 calls after it has been made .. */
+    private static void theLastOf512Calls(Checks checks) {
+        TinyShell shell = new TinyShell();
+        for (int round = 0; round < 102; round++) {
+            shell.wipe();
+            checks.same("type", shell.type(eight('a', '=', '$', '?', ';', 'w', 'c')), true);
+            checks.same("run " + round, shell.run(), 0);
+            checks.same("count(4)", shell.count(4), 4);
+            checks.same("value(0, 0)", shell.value(0, 0), '0');
+        }
+        checks.same("call 511", shell.type(eight(';', '(')), true);
+        String answer;
+        try {
+            answer = String.valueOf(shell.run());
+        } catch (IllegalArgumentException e) {
+            answer = Checks.MALFORMED;
+        }
+        checks.same("call 512", answer, Checks.MALFORMED);
     }
 
     /** Promises 5 to 11: they tell, and change nothing. */
@@ -342,6 +372,7 @@ public final class PromiseBoundaryTest {
         position(checks);
         content(checks);
         name(checks);
+        theLastOf512Calls(checks);
         looksChangeNothing(checks);
         checks.end();
     }

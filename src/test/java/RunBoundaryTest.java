@@ -5,6 +5,9 @@ public final class RunBoundaryTest {
         checks.script("cat", 0, "");
         checks.script("wc; echo a; wc", 0, "0 0\na\n0 0\n");
         checks.script("echo a; cat", 0, "a\n");
+        checks.script("echo a | cat; cat", 0, "a\n");
+        checks.script("echo a | cat && wc || cat", 0, "a\n0 0\n");
+        checks.script("echo a > f; cat < f; wc; cat < f | wc < f; wc | cat", 0, "a\n0 0\n1 2\n0 0\n");
         checks.script("echo a && cat | wc", 0, "a\n0 0\n");
         checks.script("wc | wc | wc", 0, "1 4\n");
         checks.script("echo a | echo b | wc", 0, "1 2\n");
@@ -126,6 +129,9 @@ public final class RunBoundaryTest {
         checks.leaves(shell, "echo p > f; echo q >> g; echo r > h; echo s >> i", 0,
             Checks.state("", "", " f=[p\n] g=[y\nq\n] h=[r\n] i=[s\n]", 0, ""));
         checks.leaves(shell, "nope > f; wc x > h; true > i; rm g", 0, Checks.state("", "", " f=[] h=[] i=[]", 0, ""));
+        checks.leaves(shell, "echo p > f; rm f; >> f; echo q > h; rm h; >> g; rm g", 0, Checks.state("", "", " f=[] i=[]", 0, ""));
+        checks.leaves(shell, "echo p > h; rm h", 0, Checks.state("", "", " f=[] i=[]", 0, ""));
+        checks.leaves(shell, ">> h", 0, Checks.state("", "", " f=[] h=[] i=[]", 0, ""));
         checks.leaves(shell, "test -e new > new && echo a >> new", 0, Checks.state("", "", " f=[] h=[] i=[] new=[a\n]", 0, ""));
     }
 

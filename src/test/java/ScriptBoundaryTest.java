@@ -24,6 +24,13 @@ public final class ScriptBoundaryTest {
         checks.same("typing the 240th", shell.type('\''), true);
         checks.same("the 240 as a script", Checks.runTyped(shell), "0");
         checks.same("its output", Checks.output(shell), "  \n");
+        checks.malformed("\n".repeat(239) + "(", 239);
+        checks.malformed("a;".repeat(119) + "a(", 239);
+        checks.malformed(">" + "a>".repeat(119) + ";", 239);
+        checks.malformed("a|".repeat(120), 240);
+        checks.tooMuch("\"" + "x".repeat(238) + "\"");
+        checks.tooMuch("\"${a:-" + "x".repeat(232) + "}\"");
+        checks.script("\"${a:-" + "x".repeat(40) + "}\"" + "$a".repeat(96), 127, "");
     }
 
     /** .. : 10 (LF) and 32 .. 126. */

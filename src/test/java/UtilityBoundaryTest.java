@@ -81,6 +81,8 @@ public final class UtilityBoundaryTest {
         checks.leaves(shell, "unset a a c", 0, Checks.state(" ab=[4] b=[2]", " [a]", " b=[]", 0, ""));
         checks.leaves(shell, "unset" + FIFTEEN, 0, Checks.state(" ab=[4]", " [a]", " b=[]", 0, ""));
         checks.leaves(shell, "unset ab; unset ab", 0, Checks.state("", " [a]", " b=[]", 0, ""));
+        checks.leaves(shell, "unset=1; unset x", 0, Checks.state(" unset=[1]", " [a]", " b=[]", 0, ""));
+        checks.leaves(shell, "unset unset", 0, Checks.state("", " [a]", " b=[]", 0, ""));
     }
 
     /** rm: files go (one to which its own > or >> goes, too); status 1 if one was not there. */
@@ -96,6 +98,8 @@ public final class UtilityBoundaryTest {
         checks.leaves(shell, "rm d > d; rm d", 1, Checks.state(" a=[1]", "", "", 1, ""));
         checks.leaves(shell, "> e; rm e f > g", 1, Checks.state(" a=[1]", "", " g=[]", 1, ""));
         checks.leaves(shell, "rm" + FIFTEEN + "; rm g < g", 0, Checks.state(" a=[1]", "", "", 0, ""));
+        checks.leaves(shell, "> rm; > e; rm e", 0, Checks.state(" a=[1]", "", " rm=[]", 0, ""));
+        checks.leaves(shell, "rm rm", 0, Checks.state(" a=[1]", "", "", 0, ""));
         checks.leaves(shell, "> e; rm e e", 1, Checks.state(" a=[1]", "", "", 1, ""));
     }
 
@@ -314,6 +318,10 @@ public final class UtilityBoundaryTest {
             checks.script(utility + " | wc", 0, "0 0\n");
         }
         checks.script("echo 'a\n' | rev", 0, "a\n\n");
+        Shell shell = Checks.after("a='" + "\n".repeat(39) + "'; echo \"$a\" > f; echo \"$a\" >> f");
+        for (String utility : new String[] {"sort", "rev", "grep ''"}) {
+            checks.script(shell, "cat f f f | " + utility, 0, "\n".repeat(240));
+        }
         checks.script("echo a | tr a '\n' | uniq", 0, "\n");
     }
 
